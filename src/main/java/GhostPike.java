@@ -75,6 +75,7 @@ public final class GhostPike {
             draft = old;
             past.clear();
             dreams.clear();
+            forecast.outdate();
         }
         return fault;
     }
@@ -95,7 +96,7 @@ public final class GhostPike {
             case 3: return told.fields >> road & 1;
             case 4: return now.cells[State.GATES] >> road & 1;
             case 5: return now.cells[State.WEAR + road];
-            case 6: world.enter(now); return world.brokenRoads() >> road & 1;
+            case 6: world.enter(now); return world.broken >> road & 1;
             case 7: return now.cells[State.SEEN_ON + road];
             case 8: return now.cells[State.PAID_ON + road];
             default: return NONE;
@@ -165,7 +166,7 @@ public final class GhostPike {
         if ((gates >> road & 1) != 0 == up) {
             return false;
         }
-        past.keep(now);
+        beginThing();
         now.cells[State.GATES] = gates ^ 1 << road;
         return true;
     }
@@ -174,7 +175,7 @@ public final class GhostPike {
         if (rate < 0 || rate > MAX_RATE || rate == now.cells[State.EVEN_RATE]) {
             return false;
         }
-        past.keep(now);
+        beginThing();
         now.setRates(rate, rate);
         return true;
     }
@@ -188,7 +189,7 @@ public final class GhostPike {
         if (wear == 0 || wear > till) {
             return ABSENT;
         }
-        past.keep(now);
+        beginThing();
         now.cells[State.WEAR + road] = 0;
         now.cells[State.TILL] = till - wear;
         return till - wear;
@@ -199,7 +200,7 @@ public final class GhostPike {
             return NONE;
         }
         if (n > 0) {
-            past.keep(now);
+            beginThing();
             world.enter(now);
             world.passNights(n);
         }
@@ -207,6 +208,7 @@ public final class GhostPike {
     }
 
     public boolean undo() {
+        forecast.outdate();
         return past.takeBack(now);
     }
 
@@ -244,8 +246,8 @@ public final class GhostPike {
         if (what < 0 || what > 1) {
             return NONE;
         }
-        int gates = forecast.fewestGates();
-        return what == 0 ? Integer.bitCount(gates) : gates;
+        forecast.seekStop();
+        return what == 0 ? forecast.most : forecast.which;
     }
 
     public int saves(int ghost) {
@@ -312,9 +314,7 @@ public final class GhostPike {
         if (what < 0 || what > 1) {
             return NONE;
         }
-        if (!forecast.seekFirstBroken()) {
-            return ABSENT;
-        }
+        forecast.seekFirstBroken();
         return what == 0 ? forecast.which : forecast.most;
     }
 
@@ -381,6 +381,7 @@ public final class GhostPike {
     }
 
     public boolean restore(int slot) {
+        forecast.outdate();
         return past.useSlot(slot, now);
     }
 
@@ -399,9 +400,14 @@ public final class GhostPike {
             case 9: return past.size;
             case 10: return dreams.size;
             case 11: return Integer.bitCount(past.slotsHeld);
-            case 12: world.enter(now); return world.brokenRoads();
+            case 12: world.enter(now); return world.broken;
             default: return NONE;
         }
+    }
+
+    private void beginThing() {
+        past.keep(now);
+        forecast.outdate();
     }
 
     private boolean isRoad(int road) {
@@ -913,7 +919,7 @@ public final class GhostPike {
         static final int RATE_SHIFT = 24;
         static final int FOGGY_SHIFT = 28;
         static final int NIGHT_SHIFT = 32;
-        private static final long WEAR_MASK = (1L << RATE_SHIFT) - 1;
+        static final long WEAR_MASK = (1L << RATE_SHIFT) - 1;
         private static final long RATE_MASK = 15L << RATE_SHIFT;
         private static final long FOGGY_MASK = 1L << FOGGY_SHIFT;
         private static final long NIGHT_MASK = -1L << NIGHT_SHIFT;
@@ -970,10 +976,12 @@ public final class GhostPike {
         }
 
         int valueOf(int[] given, int[] stack) {
+            int[] row = works;
+            int end = length;
             int top = 0;
-            for (int at = 0; at < length; at++) {
-                int number = works[at] >> WORK_BITS;
-                switch (works[at] & (1 << WORK_BITS) - 1) {
+            for (int at = 0; at < end; at++) {
+                int number = row[at] >> WORK_BITS;
+                switch (row[at] & (1 << WORK_BITS) - 1) {
                     case PUSH:
                         top++;
                         stack[top] = number;
@@ -1197,13 +1205,15 @@ public final class GhostPike {
         }
     }
 
-    /** A GHOST's WAY; it stays as long as the prices of the ROADS stay. */
+    /** A GHOST's WAY; it stays until a price changes by which another one could be his. */
     private static final class Way {
         /** Above every COST; the price of a BROKEN ROAD. */
         static final int FAR = 1000000;
 
         boolean known;
-        final int[] prices = new int[MAX_ROADS];
+        /** Bits of the ROADS whose prices may be others by now. */
+        int doubtful;
+        private final int[] prices = new int[MAX_ROADS];
         /** What is owed on each ROAD, which may change though the price does not. */
         final int[] owed = new int[MAX_ROADS];
         final int[] roads = new int[MAX_PLACES];
@@ -1214,6 +1224,15 @@ public final class GhostPike {
 
         boolean isThere() {
             return total < FAR;
+        }
+
+        /** A ROAD that he does not go and that only got dearer leaves his WAY as it is. */
+        void setPrice(int road, int price) {
+            int old = prices[road];
+            if (price < old || price > old && (roadBits >> road & 1) != 0) {
+                known = false;
+            }
+            prices[road] = price;
         }
 
         void seek(Told told, int ghost) {
@@ -1235,20 +1254,22 @@ public final class GhostPike {
 
         /** What is left to the goal from each PLACE, by taking shorter ways until there are none. */
         private void measure(Told told, int goal) {
-            Arrays.fill(left, FAR);
-            left[goal] = 0;
+            int[] far = left;
+            Arrays.fill(far, FAR);
+            far[goal] = 0;
             boolean better = true;
             for (int round = 0; round < MAX_PLACES && better; round++) {
                 better = false;
-                for (int road = 0; road < told.roads; road++) {
-                    int price = prices[road];
+                for (int road = told.roads - 1; road >= 0; road--) {
                     int one = told.one[road];
                     int other = told.other[road];
-                    if (left[other] + price < left[one]) {
-                        left[one] = left[other] + price;
+                    int byOther = far[other] + prices[road];
+                    int byOne = far[one] + prices[road];
+                    if (byOther < far[one]) {
+                        far[one] = byOther;
                         better = true;
-                    } else if (left[one] + price < left[other]) {
-                        left[other] = left[one] + price;
+                    } else if (byOne < far[other]) {
+                        far[other] = byOne;
                         better = true;
                     }
                 }
@@ -1279,6 +1300,8 @@ public final class GhostPike {
         /** Bits of the ROADS on which somebody was SEEN in the night that passed last. */
         int seenOn;
         final Way[] ways = new Way[MAX_GHOSTS];
+        /** Bits of the BROKEN ROADS. */
+        int broken;
         private int[] cells;
         private long nightKey;
         private long bearsKey;
@@ -1303,6 +1326,14 @@ public final class GhostPike {
         void enter(State state) {
             cells = state.cells;
             lookAtNight();
+            broken = findBroken();
+            doubt(-1);
+        }
+
+        /** The state that was entered has other GATES. */
+        void changeGates(int gates) {
+            doubt(cells[State.GATES] ^ gates);
+            cells[State.GATES] = gates;
         }
 
         void passNights(int n) {
@@ -1331,20 +1362,14 @@ public final class GhostPike {
         /** Whether a GHOST has a WAY, which is then in ways. */
         boolean findWay(int ghost) {
             Way way = ways[ghost];
-            int[] prices = way.prices;
-            boolean same = way.known;
-            int roads = told.roads;
-            for (int road = 0; road < roads; road++) {
-                int price = Way.FAR;
-                if (cells[State.WEAR + road] < bearing[road]) {
-                    price = priceOf(ghost, road);
-                }
-                if (price != prices[road]) {
-                    prices[road] = price;
-                    same = false;
+            int doubtful = way.doubtful;
+            way.doubtful = 0;
+            for (int road = 0; road < told.roads && doubtful >>> road != 0; road++) {
+                if ((doubtful >>> road & 1) != 0) {
+                    way.setPrice(road, (broken >> road & 1) != 0 ? Way.FAR : priceOf(ghost, road));
                 }
             }
-            if (!same) {
+            if (!way.known) {
                 way.seek(told, ghost);
             }
             return way.isThere();
@@ -1390,45 +1415,81 @@ public final class GhostPike {
             return free;
         }
 
-        int brokenRoads() {
-            int broken = 0;
-            for (int road = 0; road < told.roads; road++) {
-                if (cells[State.WEAR + road] >= bearing[road]) {
-                    broken |= 1 << road;
-                }
-            }
-            return broken;
-        }
-
         private void walk(int ghost) {
             Way way = ways[ghost];
+            int[] row = cells;
             int carries = told.carries[ghost];
+            int worn = 0;
             for (int i = 0; i < way.length; i++) {
                 int road = way.roads[i];
-                int paid = Math.min(way.owed[road], carries);
-                carries -= paid;
-                cells[State.TILL] += paid;
-                cells[State.PAID_ON + road] += paid;
-                cells[State.PAID + ghost] += paid;
-                int seen = told.fields >> road & 1;
-                cells[State.SEEN_ON + road] += seen;
-                cells[State.SEEN + ghost] += seen;
-                seenOn |= seen << road;
-                cells[State.WEAR + road]++;
+                int owed = way.owed[road];
+                if (owed > 0) {
+                    int paid = Math.min(owed, carries);
+                    carries -= paid;
+                    row[State.PAID_ON + road] += paid;
+                }
+                if ((told.fields >> road & 1) != 0) {
+                    row[State.SEEN_ON + road]++;
+                    row[State.SEEN + ghost]++;
+                    seenOn |= 1 << road;
+                }
+                row[State.WEAR + road]++;
+                if (row[State.WEAR + road] >= bearing[road]) {
+                    worn |= 1 << road;
+                }
             }
-            cells[State.WENT + ghost]++;
+            int paid = told.carries[ghost] - carries;
+            row[State.TILL] += paid;
+            row[State.PAID + ghost] += paid;
+            row[State.WENT + ghost]++;
+            broken |= worn;
+            doubt(worn);
+            doubtBy(Law.WEAR_MASK, way.roadBits);
+        }
+
+        private int findBroken() {
+            int bits = 0;
+            for (int road = told.roads - 1; road >= 0; road--) {
+                if (cells[State.WEAR + road] >= bearing[road]) {
+                    bits |= 1 << road;
+                }
+            }
+            return bits;
+        }
+
+        /** Prices on these ROADS may be others, as something has changed at which the LAWS may look. */
+        private void doubtBy(long changed, int roads) {
+            int doubtful = 0;
+            if ((changed & told.owes.mask) != 0) {
+                doubtful |= cells[State.GATES];
+            }
+            if ((changed & told.fears.mask) != 0) {
+                doubtful |= told.fields;
+            }
+            doubt(doubtful & roads);
+        }
+
+        private void doubt(int roads) {
+            for (int ghost = 0; roads != 0 && ghost < told.ghosts; ghost++) {
+                ways[ghost].doubtful |= roads;
+            }
         }
 
         private void lookAtNight() {
             int night = cells[State.NIGHT];
+            long lastKey = nightKey;
             foggy = told.fog > 0 && lot(100, cells[State.SEED], night) < told.fog ? 1 : 0;
             nightKey = ((long) night << Law.NIGHT_SHIFT) + ((long) foggy << Law.FOGGY_SHIFT);
+            doubtBy(lastKey ^ nightKey, -1);
             long key = nightKey & told.bears.mask;
             if (key != bearsKey) {
                 bearsKey = key;
                 for (int road = 0; road < told.roads; road++) {
                     bearing[road] = said(told.bears, 0, road, MAX_BEARING);
                 }
+                int before = broken;
+                broken = findBroken();
+                doubt(before ^ broken);
             }
         }
 
@@ -1471,10 +1532,19 @@ public final class GhostPike {
     private static final class Forecast {
         private static final int MAX_NIGHTS = 200;
         private static final int KEEPER_RATES = 4;
+        /** Questions, which are numbered on from here by what they ask for. */
+        private static final int PUT = 100;
+        private static final int BEST = 200;
+        private static final int BUSIEST = 300;
+        private static final int KEEPERS = 400;
+        private static final int FIRST = 500;
+        private static final int STOP = 600;
 
         /** What the latest search found. */
         int most;
         int which;
+        /** The question that was searched for; many are asked twice, once for each half of the answer. */
+        private int answered = NONE;
         private final World world;
         private final State now;
         private final State then = new State();
@@ -1488,7 +1558,12 @@ public final class GhostPike {
             this.now = now;
         }
 
-        /** Whatever the last one changed is as it is now. */
+        /** Something has happened since the latest search. */
+        void outdate() {
+            answered = NONE;
+        }
+
+        /** Whatever the last run changed is as it is now. */
         void startAnew() {
             then.copy(now);
         }
@@ -1509,8 +1584,9 @@ public final class GhostPike {
         }
 
         void seekGates(int gates, int nights) {
-            most = NONE;
-            which = 0;
+            if (isAnswered(PUT + 10 * gates + nights)) {
+                return;
+            }
             int end = 1 << world.told.roads;
             for (int bits = (1 << gates) - 1; bits < end; bits = nextAlike(bits)) {
                 startAnew();
@@ -1521,8 +1597,9 @@ public final class GhostPike {
         }
 
         void seekRate(int nights) {
-            most = NONE;
-            which = 0;
+            if (isAnswered(BEST + nights)) {
+                return;
+            }
             for (int rate = 0; rate <= MAX_RATE; rate++) {
                 startAnew();
                 then.setRates(rate, rate);
@@ -1532,29 +1609,23 @@ public final class GhostPike {
         }
 
         void seekBusiest(int nights) {
+            if (isAnswered(BUSIEST + nights)) {
+                return;
+            }
             startAnew();
             run(nights);
-            most = NONE;
-            which = 0;
             for (int road = 0; road < world.told.roads; road++) {
                 keepMost(grown(State.WEAR + road, 1), road);
             }
         }
 
-        int fewestGates() {
-            int end = 1 << world.told.roads;
+        void seekStop() {
+            if (isAnswered(STOP)) {
+                return;
+            }
             findOpenRoads();
-            if (leavesNobodyFree(0)) {
-                return 0;
-            }
-            for (int gates = 1; gates < world.told.roads; gates++) {
-                for (int bits = (1 << gates) - 1; bits < end; bits = nextAlike(bits)) {
-                    if (leavesNobodyFree(bits)) {
-                        return bits;
-                    }
-                }
-            }
-            return end - 1;
+            which = fewestGates();
+            most = Integer.bitCount(which);
         }
 
         int costWithoutGates(int ghost) {
@@ -1566,6 +1637,9 @@ public final class GhostPike {
         }
 
         void takeByKeepers(int nights) {
+            if (isAnswered(KEEPERS + nights)) {
+                return;
+            }
             for (int pair = 0; pair < KEEPER_RATES * KEEPER_RATES; pair++) {
                 startAnew();
                 then.setRates(pair / KEEPER_RATES, pair % KEEPER_RATES);
@@ -1597,28 +1671,32 @@ public final class GhostPike {
             startAnew();
             world.enter(then);
             for (int night = 0; night < MAX_NIGHTS; night++) {
-                if ((world.brokenRoads() >> road & 1) != 0) {
+                if ((world.broken >> road & 1) != 0) {
                     return night;
                 }
                 world.passNight();
             }
-            return (world.brokenRoads() >> road & 1) != 0 ? MAX_NIGHTS : ABSENT;
+            return (world.broken >> road & 1) != 0 ? MAX_NIGHTS : ABSENT;
         }
 
-        boolean seekFirstBroken() {
+        void seekFirstBroken() {
+            if (isAnswered(FIRST)) {
+                return;
+            }
+            most = ABSENT;
+            which = ABSENT;
             startAnew();
             world.enter(then);
-            int whole = ~world.brokenRoads();
+            int whole = ~world.broken;
             for (int night = 1; night <= MAX_NIGHTS; night++) {
                 world.passNight();
-                int broken = world.brokenRoads() & whole;
+                int broken = world.broken & whole;
                 if (broken != 0) {
                     which = firstBit(broken);
                     most = night;
-                    return true;
+                    return;
                 }
             }
-            return false;
         }
 
         int nightsUntilCutOff(int ghost) {
@@ -1649,6 +1727,17 @@ public final class GhostPike {
             return sum;
         }
 
+        /** Whether the latest search was for this; if not, one for it begins. */
+        private boolean isAnswered(int question) {
+            if (question == answered) {
+                return true;
+            }
+            answered = question;
+            most = NONE;
+            which = 0;
+            return false;
+        }
+
         private void keepMost(int amount, int of) {
             if (amount > most) {
                 most = amount;
@@ -1667,6 +1756,21 @@ public final class GhostPike {
             }
         }
 
+        private int fewestGates() {
+            int end = 1 << world.told.roads;
+            if (leavesNobodyFree(0)) {
+                return 0;
+            }
+            for (int gates = 1; gates < world.told.roads; gates++) {
+                for (int bits = (1 << gates) - 1; bits < end; bits = nextAlike(bits)) {
+                    if (leavesNobodyFree(bits)) {
+                        return bits;
+                    }
+                }
+            }
+            return end - 1;
+        }
+
         private boolean leavesNobodyFree(int gates) {
             int ghosts = world.told.ghosts;
             for (int ghost = 0; ghost < ghosts; ghost++) {
@@ -1674,7 +1778,7 @@ public final class GhostPike {
                     return false;
                 }
             }
-            then.cells[State.GATES] = gates;
+            world.changeGates(gates);
             for (int ghost = 0; ghost < ghosts; ghost++) {
                 if (world.findWay(ghost) && (world.ways[ghost].roadBits & gates) == 0) {
                     return false;

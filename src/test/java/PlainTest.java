@@ -49,6 +49,7 @@ public final class PlainTest {
     for (int i = 0; i < 120; i++) {
       if (r.once(90)) load(x, y, r.once(3) ? Texts.spoilt(r) : Texts.good(r));
       if (busy && r.once(2)) change(r, x, y); else if (r.once(5)) change(r, x, y); else ask(r, x, y);
+      if (r.once(8)) askAgain(r, x, y);
     }
   }
 
@@ -68,6 +69,24 @@ public final class PlainTest {
         else { int s = r.from(-1, 3); same("restore(" + s + ")", x.restore(s) ? 1 : 0, y.restore(s) ? 1 : 0); }
     }
     for (int what = 3; what <= 12; what++) same("count(" + what + ")", x.count(what), y.count(what));
+  }
+
+  /** Both halves of an answer, and now and then something done between them. */
+  private static void askAgain(Random73 r, GhostPike x, PlainPike y) {
+    int n = r.from(1, 3), kind = r.below(6);
+    for (int i = 0; i < 4; i++) {
+      int what = r.below(2);
+      switch (kind) {
+        case 0: same("put(1, " + n + ", " + what + ")", x.put(1, n, what), y.put(1, n, what)); break;
+        case 1: same("stop(" + what + ")", x.stop(what), y.stop(what)); break;
+        case 2: same("best(" + n + ", " + what + ")", x.best(n, what), y.best(n, what)); break;
+        case 3: same("busiest(" + n + ", " + what + ")", x.busiest(n, what), y.busiest(n, what)); break;
+        case 4: same("keepers(" + n + ", " + (what - 1) + ")", x.keepers(n, what - 1), y.keepers(n, what - 1)); break;
+        default: same("first(" + what + ")", x.first(what), y.first(what));
+      }
+      if (r.once(3)) change(r, x, y);
+      if (r.once(5)) kind = r.below(6);
+    }
   }
 
   private static void ask(Random73 r, GhostPike x, PlainPike y) {
