@@ -1588,11 +1588,13 @@ public final class GhostPike {
                 return;
             }
             int end = 1 << world.told.roads;
-            for (int bits = (1 << gates) - 1; bits < end; bits = nextAlike(bits)) {
-                startAnew();
-                then.cells[State.GATES] = bits;
-                run(nights);
-                keepMost(grown(State.TILL, 1), bits);
+            for (int bits = 0; bits < end; bits++) {
+                if (Integer.bitCount(bits) == gates) {
+                    startAnew();
+                    then.cells[State.GATES] = bits;
+                    run(nights);
+                    keepMost(grown(State.TILL, 1), bits);
+                }
             }
         }
 
@@ -1758,12 +1760,9 @@ public final class GhostPike {
 
         private int fewestGates() {
             int end = 1 << world.told.roads;
-            if (leavesNobodyFree(0)) {
-                return 0;
-            }
-            for (int gates = 1; gates < world.told.roads; gates++) {
-                for (int bits = (1 << gates) - 1; bits < end; bits = nextAlike(bits)) {
-                    if (leavesNobodyFree(bits)) {
+            for (int gates = 0; gates < world.told.roads; gates++) {
+                for (int bits = 0; bits < end; bits++) {
+                    if (Integer.bitCount(bits) == gates && leavesNobodyFree(bits)) {
                         return bits;
                     }
                 }
@@ -1808,16 +1807,6 @@ public final class GhostPike {
                 }
             }
             return NONE;
-        }
-
-        /** The next number above this one in which as many bits are set. */
-        private static int nextAlike(int bits) {
-            int low = bits & -bits;
-            if (low == 0) {
-                return Integer.MAX_VALUE;
-            }
-            int carried = bits + low;
-            return carried | ((bits ^ carried) >>> 2) / low;
         }
     }
 

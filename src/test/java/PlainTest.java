@@ -11,7 +11,7 @@ public final class PlainTest {
   }
 
   public static void main(String[] args) {
-    int runs = args.length > 0 ? Integer.parseInt(args[0]) : 250;
+    int runs = args.length > 0 ? Integer.parseInt(args[0]) : 400;
     int from = args.length > 1 ? Integer.parseInt(args[1]) : 1;
     for (int run = from; run < from + runs; run++) goodRun(new Random73(run), run);
     for (int run = 1; run <= runs * 20; run++) faultRun(new Random73(100000 + from + run), run);

@@ -501,6 +501,11 @@ public final class PromisesTest {
     x = Texts.read("place a;place b;place c;road a b 1;road b c 1;ghost g a c 0 9 1;owes = 0;");
     due(19, "stop(1)", x.stop(1), 1);
     due(17, "put(1, 1, 1)", x.put(1, 1, 1), 1);
+    // A cheap GATE further on stops him, a dear one sends him round.
+    x = Texts.read("place a;place b;place c;road a b 1;road a c 5;road b c 1;ghost g a c 0 9 1;owes = if which < 1 then 9 else 1;");
+    due(19, "stop(0)", x.stop(0), 1);
+    due(19, "stop(1)", x.stop(1), 4);
+    due(17, "put(1, 1, 1)", x.put(1, 1, 1), 4);
     // BROKEN ones count as ROADS, but nobody goes there
     x = Texts.read(PAIR + "road a b 1;road a b 2;ghost g a b 0 9 1;owes = 3;bears = which * 9;");
     due(19, "stop(1)", x.stop(1), 2);
@@ -546,6 +551,7 @@ public final class PromisesTest {
     due(22, "seen(2, 1)", x.seen(2, 1), 2);
     due(22, "seen(2, 6)", x.seen(2, 6), 5);
     due(22, "seen(0, 6)", x.seen(0, 6), 0);
+    due(22, "seen(2, 60)", x.seen(2, 60), 50);
     due(22, "seen(2, 61)", x.seen(2, 61), NONE);
     due(22, "seen(2, -1)", x.seen(2, -1), NONE);
     due(22, "seen(5, 1)", x.seen(5, 1), NONE);
@@ -557,6 +563,7 @@ public final class PromisesTest {
     due(23, "busiest(6, 1)", x.busiest(6, 1), 6);
     due(23, "of alike ones the first: busiest(3, 0)", x.busiest(3, 0), 2);
     due(23, "busiest(3, 1)", x.busiest(3, 1), 3);
+    due(23, "busiest(60, 1)", x.busiest(60, 1), 60);
     due(23, "busiest(61, 0)", x.busiest(61, 0), NONE);
     due(23, "busiest(-1, 0)", x.busiest(-1, 0), NONE);
     due(23, "busiest(1, 2)", x.busiest(1, 2), NONE);
@@ -614,6 +621,11 @@ public final class PromisesTest {
     due(25, "keepers(2, 0)", x.keepers(2, 0), 2);
     due(25, "keepers(2, 1)", x.keepers(2, 1), 3);
     due(25, "keepers(2, 7)", x.keepers(2, 7), 33);
+    // The less the RATE, the more is owed: nobody rests above 0.
+    GhostPike y = Texts.read("place a;place b;place c;place d;road a b 1 gate;road c d 1 gate;ghost g a b 0 99 1;ghost h c d 0 99 1;"
+        + "owes = 3 - rate;");
+    due(25, "keepers(1, -1) the other way round", y.keepers(1, -1), 1);
+    due(25, "keepers(1, 0) the other way round", y.keepers(1, 0), 0);
     // What was taken ahead does not count.
     x.nights(5);
     due(25, "keepers(2, -1) behind", x.keepers(2, -1), 8);
@@ -697,6 +709,12 @@ public final class PromisesTest {
     due(28, "meets(1, 2) from 99", x.meets(1, 2), 99);
     x.nights(1);
     due(28, "meets(1, 2) from 100", x.meets(1, 2), -2);
+    x = Texts.read(PAIR + "ghost g a b 0 0 4;ghost h a b 0 0 5;");
+    x.nights(30);
+    x.nights(30);
+    due(28, "meets(0, 1) from 60", x.meets(0, 1), 60);
+    x.nights(30);
+    due(28, "meets(0, 1) in night 100, from 90", x.meets(0, 1), -2);
   }
 
   private static void year() {
@@ -784,6 +802,23 @@ public final class PromisesTest {
     due(32, "tell 20", x.tell(0, 1, true), NONE);
     due(34, "who(20, -1)", x.who(20, -1), 4);
     due(33, "forget()", x.forget(), 20);
+    // The fewest sets left at worst: three of four show 0, two show 1; then three show 0 and one shows 1, which is alike.
+    x = Texts.read("place a;place b;place c;road a b 1 field;road b c 1 field;ghost g a c 0 0 1;ghost h a b 0 0 1;");
+    due(35, "watch(0, 0) by two of four", x.watch(0, 0), 1);
+    x = Texts.read(PAIR + "road a b 1 field;road a b 2 field;ghost g a b 0 0 1;ghost h a b 0 0 1;fears = 0;bears = 1;");
+    due(35, "watch(0, 0) by one of four", x.watch(0, 0), 0);
+    due(35, "watch(0, 1): the one ROAD is gone, he goes the other", x.watch(0, 1), 1);
+    x.tell(0, 1, false);
+    due(34, "who(1, -1) by WEAR of the night ahead", x.who(1, -1), 4);
+    x.tell(1, 1, true);
+    due(34, "who(2, -1)", x.who(2, -1), 2);
+    due(34, "who(2, 0)", x.who(2, 0), 1);
+    // Another text, other dreams.
+    Texts.put(x, PAIR + "road a b 1 field;road a b 2 field;ghost g a b 0 0 1;ghost h a b 0 0 1;fears = 0;");
+    x.read();
+    x.tell(0, 1, false);
+    due(34, "who(1, -1) of another text", x.who(1, -1), 1);
+    due(34, "who(1, 0) of another text", x.who(1, 0), 0);
     // Far nights, and WEAR of those who there are: who goes alone does not break the ROAD.
     x = Texts.read(PAIR + "road a b 1 field;ghost g a b 0 0 1;ghost h a b 0 0 1;bears = 31;");
     x.tell(0, 15, true);
