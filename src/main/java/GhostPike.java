@@ -1255,21 +1255,22 @@ public final class GhostPike {
         /** What is left to the goal from each PLACE, by taking shorter ways until there are none. */
         private void measure(Told told, int goal) {
             int[] far = left;
+            int[] price = prices;
+            int[] ones = told.one;
+            int[] others = told.other;
             Arrays.fill(far, FAR);
             far[goal] = 0;
             boolean better = true;
             for (int round = 0; round < MAX_PLACES && better; round++) {
                 better = false;
                 for (int road = told.roads - 1; road >= 0; road--) {
-                    int one = told.one[road];
-                    int other = told.other[road];
-                    int byOther = far[other] + prices[road];
-                    int byOne = far[one] + prices[road];
-                    if (byOther < far[one]) {
-                        far[one] = byOther;
+                    int one = far[ones[road]];
+                    int other = far[others[road]];
+                    if (other + price[road] < one) {
+                        far[ones[road]] = other + price[road];
                         better = true;
-                    } else if (byOne < far[other]) {
-                        far[other] = byOne;
+                    } else if (one + price[road] < other) {
+                        far[others[road]] = one + price[road];
                         better = true;
                     }
                 }

@@ -40,6 +40,7 @@ public final class PromisesTest {
     dreams();
     slots();
     counts();
+    farOff();
     System.out.println(wrong == 0 ? "all promises hold" : wrong + " answers are not as due");
     if (wrong != 0) System.exit(1);
   }
@@ -881,6 +882,28 @@ public final class PromisesTest {
     x.rate(3);
     due(37, "restore(2)", x.restore(2), true);
     due(38, "count(4)", x.count(4), 2);
+  }
+
+  /** Numbers far from all that is: nothing is thrown, nothing happens. */
+  private static void farOff() {
+    for (GhostPike x : new GhostPike[] {new GhostPike(), Texts.read(LINE)}) {
+      for (int far : new int[] {Integer.MIN_VALUE, Integer.MIN_VALUE + 1, -1000, -3, 1000, 1 << 20, Integer.MAX_VALUE - 1, Integer.MAX_VALUE}) {
+        int[] got = {x.back(far), x.road(far, 0), x.road(0, far), x.ghost(far, 0), x.ghost(0, far), x.cost(far, 0), x.cost(0, far),
+            x.way(far, 0), x.way(0, far), x.wayAt(far, 0), x.wayAt(0, -Math.abs(far / 2)), x.mend(far), x.nights(far), x.tonight(far),
+            x.put(far, 1, 0), x.put(1, far, 0), x.put(1, 1, far), x.stop(far), x.saves(far), x.pays(far, 1), x.pays(0, far),
+            x.seen(far, 1), x.seen(0, far), x.busiest(far, 0), x.busiest(1, far), x.best(far, 0), x.best(1, far),
+            x.keepers(far, -1), x.keepers(1, far), x.breaks(far), x.first(far), x.meets(far, 0), x.meets(0, far), x.cutOff(far),
+            x.year(far, 1), x.year(1, far), x.tell(far, 0, true), x.tell(0, far, true), x.who(far, -1), x.who(0, far),
+            x.watch(far, 0), x.watch(0, far), x.count(far)};
+        for (int i = 0; i < got.length; i++) due(38, "call " + i + " with " + far, got[i], NONE);
+        due(11, "gate(" + far + ", true)", x.gate(far, true), false);
+        due(12, "rate(" + far + ")", x.rate(far), false);
+        due(36, "hold(" + far + ")", x.hold(far), false);
+        due(37, "restore(" + far + ")", x.restore(far), false);
+      }
+      due(38, "count(9)", x.count(9), 0);
+      due(38, "count(11)", x.count(11), 0);
+    }
   }
 
   private static void counts() {
