@@ -42,6 +42,7 @@ public final class CallEdgesTest {
     watch();
     hold();
     restore();
+    askedAnew();
     count();
     longRun();
     t.end(11, 38);
@@ -455,6 +456,11 @@ public final class CallEdgesTest {
     t.due("stop(0) of the one between", x.stop(0), 1);
     x = Texts.read("place a;place b;place c;place d;road a b 1;road c d 1;road a b 9;road c d 9;ghost g a b 0 9 1;ghost h c d 0 9 1;");
     t.due("stop(1) of two", x.stop(1), 3);
+    t.edge(19, "a cheap GATE further on stops him where a dear one sends him round, though the dear one is up now");
+    x = Texts.read("place a;place b;place c;road a b 1 gate;road a c 5;road b c 1;ghost g a c 0 9 1;owes = if which < 1 then 99 else 1;");
+    t.due("wayAt(0, 0)", x.wayAt(0, 0), 1);
+    t.due("stop(0)", x.stop(0), 1);
+    t.due("stop(1)", x.stop(1), 4);
     t.edge(19, "all others down: GATES that are up do not count, and are up still");
     x = Texts.read(PAIR + "road a b 1 gate;road a b 1 gate;ghost g a b 0 9 1;");
     t.due("stop(0)", x.stop(0), 2);
@@ -476,6 +482,16 @@ public final class CallEdgesTest {
     GhostPike x = Texts.read(PAIR + "road a b 1 gate;road a b 9;ghost g a b 0 9 1;owes = 50;");
     t.due("saves(0)", x.saves(0), 8);
     t.due("way(0, 3)", x.way(0, 3), 0);
+    t.edge(20, "now: a ROAD BROKEN now would not be whole without a GATE; the RATE, the night of now");
+    x = Texts.read(PAIR + "road a b 1;road a b 4 gate;road a b 9 field;ghost g a b 0 9 1;owes = 2 + rate;fears = rate + night;bears = 2 + which * 90;");
+    t.due("saves(0)", x.saves(0), 0);
+    x.nights(2);
+    t.due("road(0, 6)", x.road(0, 6), 1);
+    t.due("saves(0) with the first one broken", x.saves(0), 3);
+    x.rate(3);
+    t.due("saves(0) by rate 3", x.saves(0), 5);
+    x.undo();
+    t.due("saves(0) by rate 1", x.saves(0), 3);
     t.edge(20, "-2: there is no WAY");
     t.due("saves(0)", Texts.read(PAIR + "ghost g a b 0 0 1;").saves(0), -2);
     t.due("saves(0) of a broken one", Texts.read(TOLL + "bears = 0;").saves(0), -2);
@@ -507,6 +523,11 @@ public final class CallEdgesTest {
       t.due("pays(0, " + far + ")", x.pays(0, far), NONE);
       t.due("pays(" + far + ", 1)", x.pays(far, 1), NONE);
     }
+    t.edge(21, "each GHOST by himself, the seventh, too");
+    GhostPike y = Texts.read(PAIR + "road a b 1 gate;ghost ga a b 1 9 1;ghost gb a b 2 9 1;ghost gc a b 3 9 1;ghost gd a b 4 9 1;ghost ge a b 5 9 1;"
+        + "ghost gf a b 6 9 1;ghost gg a b 7 9 1;owes = kind;");
+    for (int g = 0; g < 7; g++) t.due("pays(" + g + ", 2)", y.pays(g, 2), 2 * (g + 1));
+    t.due("pays(7, 2)", y.pays(7, 2), NONE);
     t.edge(21, "only what he pays from now on");
     x.nights(10);
     t.due("pays(0, 5)", x.pays(0, 5), 5);
@@ -539,6 +560,9 @@ public final class CallEdgesTest {
     t.edge(22, "only what is SEEN from now on");
     x.nights(10);
     t.due("seen(0, 5)", x.seen(0, 5), 5);
+    t.edge(22, "each ROAD by itself");
+    x = Texts.read("place a;place b;place c;place d;road a b 1 field;road b c 1 field;road c d 1 field;ghost g a d 0 0 1;ghost h b d 0 0 1;ghost i c d 0 0 1;");
+    for (int r = 0; r < 3; r++) t.due("seen(" + r + ", 2)", x.seen(r, 2), 2 * (r + 1));
     t.edge(22, "how often, not by how many: two in one night are two");
     x = Texts.read(FIELD + "ghost h b a 0 0 3;");
     t.due("seen(0, 1)", x.seen(0, 1), 2);
@@ -658,6 +682,18 @@ public final class CallEdgesTest {
     t.due("keepers(1, NONE)", x.keepers(1, NONE), 4);
     int[] odd = {3, 13, 23, 33, NONE};
     for (int i = 0; i < 5; i++) t.due("keepers(1, " + i + ")", x.keepers(1, i), odd[i]);
+    t.edge(25, "one has the even numbers, the other one the others: each of twelve ROADS alone");
+    for (int r = 0; r < 12; r++) {
+      x = Texts.read(PAIR + Edges.often("road a b 9;", r) + "road a b 1 gate;" + Edges.often("road a b 9;", 11 - r) + "ghost g a b 0 99 1;");
+      t.due("keepers(1, NONE) of road " + r, x.keepers(1, NONE), 4);
+      t.due("keepers(1, 0) of road " + r, x.keepers(1, 0), r % 2 == 0 ? 30 : 3);
+      t.due("keepers(1, 3) of road " + r, x.keepers(1, 3), 33);
+    }
+    t.edge(25, "the least of all: the less the RATE the more is owed");
+    x = Texts.read("place a;place b;place c;place d;road a b 1 gate;road c d 1 gate;ghost g a b 0 99 1;ghost h c d 0 99 1;owes = 3 - rate;");
+    t.due("keepers(1, NONE)", x.keepers(1, NONE), 1);
+    t.due("keepers(1, 0)", x.keepers(1, 0), 0);
+    t.due("keepers(1, 1)", x.keepers(1, 1), NONE);
     t.edge(25, "neither took more: as much is not more");
     x = Texts.read(PAIR + "road a b 1 gate;ghost g a b 0 2 1;");
     t.due("keepers(1, NONE)", x.keepers(1, NONE), 8);
@@ -832,6 +868,11 @@ public final class CallEdgesTest {
     // LOT of night 0 is 0 for SEED 15 and 99 for SEED 226, neither for those next to them.
     t.due("year(1, 3) by fog 1", Texts.read(text + "fog 1;seed 14;").year(1, 3), 1);
     t.due("year(1, 3) by fog 99", Texts.read(text + "fog 99;seed 225;").year(1, 3), 2);
+    t.edge(30, "OWES and FEARS that both look at the FOG");
+    // LOTS of SEEDS 0 and 1: 21, 46, 98 and 36, 17, 64
+    GhostPike both = Texts.read(PAIR + "road a b 1 gate;road a b 1 field;ghost g a b 0 9 1;owes = 2 + foggy;fears = foggy * 9;fog 40;");
+    t.due("year(3, 1)", both.year(3, 1), 3);
+    t.due("year(3, 2)", both.year(3, 2), 9);
     t.edge(30, "how much the TILL grows from now on");
     x = Texts.read(text);
     x.nights(2);
@@ -1052,6 +1093,23 @@ public final class CallEdgesTest {
     x.nights(30);
     t.due("who(1, NONE) behind", x.who(1, NONE), 1);
     t.due("who(1, 0) behind", x.who(1, 0), 1);
+    t.edge(34, "a later night, asked when an earlier one is known; another text behind it");
+    String two = PAIR + "road a b 1 field;ghost g a b 0 0 2;ghost h b a 0 0 3;bears = ";
+    x = Texts.read(two + "6;");
+    x.tell(0, 1, false);
+    t.due("who(1, NONE)", x.who(1, NONE), 4);
+    x.tell(0, 8, true);
+    t.due("who(2, NONE): g alone; both have broken it in night 8", x.who(2, NONE), 1);
+    t.due("who(2, 0)", x.who(2, 0), 1);
+    x.tell(0, 15, false);
+    t.due("who(3, NONE)", x.who(3, NONE), 1);
+    Texts.put(x, two + "2;");
+    x.read();
+    x.tell(0, 2, true);
+    t.due("who(1, NONE) of another text", x.who(1, NONE), 1);
+    t.due("who(1, 0) of another text", x.who(1, 0), 1);
+    x.tell(0, 3, true);
+    t.due("who(2, NONE) of another text", x.who(2, NONE), 0);
     t.edge(34, "a set's own WEAR: one may be SEEN because another is not there");
     x = Texts.read(PAIR + "road a b 1 field;road a b 2 field;ghost g a b 0 0 1;ghost h a b 0 0 1;fears = 0;bears = 1;");
     x.tell(1, 0, true);
@@ -1097,7 +1155,20 @@ public final class CallEdgesTest {
     x = Texts.read("place a;place b;place c;road a b 1 field;road b c 1 field;ghost g a b 0 0 1;ghost h a c 0 0 1;ghost i a b 0 0 1;");
     // road 0 shows 7 of 8, road 1 shows 4 of 8
     t.due("watch(0, 0)", x.watch(0, 0), 1);
+    t.edge(35, "the fewest at worst: the set of nobody counts, too");
+    // road 0 shows if both are there, 1 of 4; road 1 shows h, 2 of 4
+    x = Texts.read("place a;place b;place c;road a b 9 field;road b c 1 field;road a b 1;ghost h c a 0 0 1;ghost g a b 0 0 1;fears = 0;bears = 1;");
+    t.due("watch(0, 0)", x.watch(0, 0), 1);
+    t.edge(35, "the fewest at worst: 3 of 4 shown, 2 of 4 shown; the other way round");
+    x = Texts.read("place a;place b;place c;road a b 1 field;road b c 1 field;ghost g a c 0 0 1;ghost h a b 0 0 1;");
+    t.due("watch(0, 0)", x.watch(0, 0), 1);
+    x = Texts.read("place a;place b;place c;road b c 1 field;road a b 1 field;ghost g a c 0 0 1;ghost h a b 0 0 1;");
+    t.due("watch(0, 0) the other way round", x.watch(0, 0), 0);
+    t.edge(35, "all of 128 sets are left: the first");
+    x = Texts.read(PAIR + "road a b 1;road a b 9 field;road a b 9 field;" + Edges.letters("ghost g# a b 0 0 1;", 7));
+    t.due("watch(0, 0)", x.watch(0, 0), 1);
     t.edge(35, "as KNOWN by k: what is known already says nothing more");
+    x = Texts.read("place a;place b;place c;road a b 1 field;road b c 1 field;ghost g a b 0 0 1;ghost h a c 0 0 1;ghost i a b 0 0 1;");
     x.tell(1, 0, true);
     t.due("watch(1, 0): both leave all four, the first", x.watch(1, 0), 0);
     t.due("watch(0, 0): as known by 0", x.watch(0, 0), 1);
@@ -1240,6 +1311,100 @@ public final class CallEdgesTest {
     t.due("best(9, 1) restored", x.best(9, 1), 45);
     t.due("first(1) restored", x.first(1), 5);
     t.due("breaks(0) restored", x.breaks(0), 5);
+  }
+
+  /** All that is found by a search, as one number. */
+  private static int searches(GhostPike x) {
+    int sum = 0;
+    for (int what = 1; what >= 0; what--) {
+      sum = sum * 31 + x.put(1, 2, what);
+      sum = sum * 31 + x.put(2, 1, what);
+      sum = sum * 31 + x.put(1, 3, what);
+      sum = sum * 31 + x.stop(what);
+      sum = sum * 31 + x.best(2, what);
+      sum = sum * 31 + x.best(9, what);
+      sum = sum * 31 + x.busiest(2, what);
+      sum = sum * 31 + x.busiest(9, what);
+      sum = sum * 31 + x.keepers(2, what);
+      sum = sum * 31 + x.keepers(9, what);
+      sum = sum * 31 + x.first(what);
+    }
+    return sum;
+  }
+
+  /** What would be hangs on how all is now, however it came to be so, and whatever was asked ahead. */
+  private static void askedAnew() {
+    String one = PAIR + "road a b 1 gate;road a b 4;road a b 9 field gate;ghost g a b 1 9 1;ghost h b a 3 5 2;owes = rate * kind + wear / 2;bears = 6 + which;";
+    String other = PAIR + "road a b 2;road a b 3 gate;road a b 8 gate;ghost g b a 2 7 2;ghost h b a 1 9 1;owes = rate + wear;bears = 9 - which;";
+    int[] kinds = {11, 12, 13, 14, 15, 37, 4};
+    for (int kind : kinds) {
+      t.edge(kind, "what would be is asked anew");
+      GhostPike x = Texts.read(one), fresh = Texts.read(one);
+      x.nights(4);
+      fresh.nights(4);
+      if (kind == 15) x.rate(5);
+      if (kind == 37) x.hold(0);
+      if (kind == 37) x.nights(3);
+      searches(x);
+      x.put(1, 2, 0);
+      switch (kind) {
+        case 11: x.gate(0, false); fresh.gate(0, false); break;
+        case 12: x.rate(3); fresh.rate(3); break;
+        case 13: t.due("mend(0)", x.mend(0), fresh.mend(0)); break;
+        case 14: x.nights(2); fresh.nights(2); break;
+        case 15: x.undo(); break;
+        case 37: x.restore(0); break;
+        default:
+          Texts.put(x, other);
+          x.read();
+          fresh = Texts.read(other);
+      }
+      t.due("put(1, 2, 0)", x.put(1, 2, 0), fresh.put(1, 2, 0));
+      t.due("all searches", searches(x), searches(fresh));
+    }
+    for (int last = 0; last < 6; last++) {
+      for (int kind : kinds) {
+        t.edge(kind, "what would be is asked anew: the search that was the last one, " + last);
+        GhostPike x = Texts.read(one), fresh = Texts.read(one);
+        x.nights(2);
+        fresh.nights(2);
+        if (kind == 15) x.nights(6);
+        if (kind == 37) x.hold(0);
+        if (kind == 37) x.nights(6);
+        search(x, last);
+        switch (kind) {
+          case 11: x.gate(0, false); fresh.gate(0, false); break;
+          case 12: x.rate(3); fresh.rate(3); break;
+          case 13: t.due("mend(0)", x.mend(0), fresh.mend(0)); break;
+          case 14: x.nights(3); fresh.nights(3); break;
+          case 15: x.undo(); break;
+          case 37: x.restore(0); break;
+          default:
+            Texts.put(x, other);
+            x.read();
+            fresh = Texts.read(other);
+        }
+        t.due("search " + last, search(x, last), search(fresh, last));
+      }
+    }
+    t.edge(17, "so many GATES in so many NIGHTS: one in two is not two in one");
+    GhostPike x = Texts.read("place a;place b;place c;place d;road a b 1;road c d 1;ghost g a b 0 9 1;ghost h c d 0 9 1;owes = 4 + which;");
+    t.due("put(1, 2, 0)", x.put(1, 2, 0), 10);
+    t.due("put(2, 1, 0)", x.put(2, 1, 0), 9);
+    t.due("put(1, 2, 1)", x.put(1, 2, 1), 2);
+    t.due("put(2, 1, 1)", x.put(2, 1, 1), 3);
+    t.due("put(1, 1, 0)", x.put(1, 1, 0), 5);
+  }
+
+  private static int search(GhostPike x, int which) {
+    switch (which) {
+      case 0: return x.put(1, 3, 0) * 100 + x.put(1, 3, 1);
+      case 1: return x.stop(0) * 100 + x.stop(1);
+      case 2: return x.best(9, 0) * 1000 + x.best(9, 1);
+      case 3: return x.busiest(9, 0) * 100 + x.busiest(9, 1);
+      case 4: return x.keepers(9, NONE) * 100 + x.keepers(9, 0);
+      default: return x.first(0) * 1000 + x.first(1);
+    }
   }
 
   private static void count() {

@@ -362,6 +362,9 @@ public final class LawEdgesTest {
       t.due("cost(0, " + far + ")", x.cost(0, far), NONE);
       t.due("cost(" + far + ", 0)", x.cost(far, 0), NONE);
     }
+    t.edge(8, "each GHOST on each ROAD by himself, asked in a row");
+    x = Texts.read(PAIR + Edges.often("road a b 1 gate;", 12) + Edges.letters("ghost g# a b 0 0 1;", 1) + "ghost x a b 3 0 1;ghost y a b 7 0 1;owes = kind * 12 + which;");
+    for (int g = 0; g < 3; g++) for (int r = 0; r < 12; r++) t.due("cost(" + g + ", " + r + ")", x.cost(g, r), 1 + 12 * x.ghost(g, 0) + r);
     t.edge(8, "the last ROAD, the last GHOST of a full text");
     x = Texts.read(PAIR + Edges.often("road a b 1;", 11) + "road a b 7 gate;" + Edges.letters("ghost g# a b 0 0 1;", 6) + "ghost z a b 9 0 1;owes = kind;");
     t.due("cost(6, 11)", x.cost(6, 11), 16);
@@ -531,6 +534,20 @@ public final class LawEdgesTest {
     x.nights(1);
     t.due("road(0, 5) behind", x.road(0, 5), 3);
     t.due("road(1, 5) behind", x.road(1, 5), 3);
+    t.edge(7, "by how all is just then, in nights that go by in one call as in nights by themselves");
+    String both = PAIR + "road a b 1 field gate;road a b 3 field;road a b 4 gate;road a b 9;ghost g a b 1 9 1;ghost h b a 2 9 2;ghost i a b 0 9 1;fog 50;";
+    for (String var : new String[] {"foggy * 4", "wear", "wear * 2", "night", "9 - night", "foggy * 3 + wear", "9 - wear - night / 2"}) {
+      for (String law : new String[] {"owes = " + var + ";", "fears = " + var + ";", "bears = 6 + " + var + ";", "owes = " + var + ";fears = 8 - (" + var + ");bears = 15 - night;"}) {
+        GhostPike one = Texts.read(both + law), many = Texts.read(both + law);
+        one.nights(13);
+        for (int n = 0; n < 13; n++) {
+          many.nights(1);
+          many.hold(0);
+        }
+        for (int r = 0; r < 4; r++) for (int w = 5; w <= 8; w++) t.due("road(" + r + ", " + w + ") by " + law, one.road(r, w), many.road(r, w));
+        for (int g = 0; g < 3; g++) for (int w = 4; w <= 7; w++) t.due("ghost(" + g + ", " + w + ") by " + law, one.ghost(g, w), many.ghost(g, w));
+      }
+    }
     t.edge(7, "else he STAYS: nothing is paid, worn, seen");
     x = Texts.read(PAIR + "road a b 1 field gate;ghost g a b 0 9 1;bears = 0;");
     x.nights(3);

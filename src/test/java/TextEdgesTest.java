@@ -28,6 +28,7 @@ public final class TextEdgesTest {
     place();
     faultChangesNothing();
     inPlaceOfTheOneAhead();
+    textBehindText();
     t.end(1, 5);
   }
 
@@ -603,5 +604,75 @@ public final class TextEdgesTest {
       t.due("forget()", x.forget(), 0);
       t.due("who(0, NONE)", x.who(0, NONE), whole ? 2 : 1);
     }
+  }
+
+  private static void expectPlain(GhostPike x, String behind) {
+    Texts.put(x, PAIR + "road a b 1;road a b 2 gate;road a b 2 field;ghost g a b 0 9 1;");
+    t.due("read() behind " + behind, x.read(), 0);
+    t.due("place() behind " + behind, x.place(), NONE);
+    int[] counts = {2, 3, 1, 0, 1, 0, 2, 0, 0, 0, 0, 0, 0};
+    for (int i = 0; i < counts.length; i++) t.due("count(" + i + ") behind " + behind, x.count(i), counts[i]);
+    int[] costs = {1, 3, 7};
+    for (int r = 0; r < 3; r++) {
+      t.due("cost(0, " + r + ") behind " + behind, x.cost(0, r), costs[r]);
+      t.due("road(" + r + ", 3) behind " + behind, x.road(r, 3), r == 2 ? 1 : 0);
+    }
+    t.due("breaks(0) behind " + behind, x.breaks(0), 99);
+    t.due("sheet(true, true) behind " + behind, x.sheet(true, true), 37);
+    t.due("wayAt(0, 0) behind " + behind, x.wayAt(0, 0), 0);
+  }
+
+  private static void textBehindText() {
+    String rich = Edges.letters("place #;", 8) + often("road a b 9 field gate;", 12) + letters("ghost g# a b 9 99 9;", 7)
+        + "owes = if wear < 9 then 50 else 60;fears = 40 + night;bears = 7 - night;fog 100;lamp 50 50;seed 15;";
+    t.edge(4, "a text is read anew, whatever was told or faulty ahead of it");
+    GhostPike x = new GhostPike();
+    for (String ahead : new String[] {rich, rich + "fog 101;", rich + "#", "place a;place a;", "road x y 1;", "fog 101;", "place", rich + "place z;"}) {
+      Texts.put(x, ahead);
+      x.read();
+      expectPlain(x, ahead);
+    }
+    t.edge(4, "a FAULT within a LAW leaves nothing to the next one");
+    for (String ahead : new String[] {"owes = 1 + 2 * (3 + 4 * (5", "owes = 1 -", "owes = (((((((", "owes = if 1 < (2 * (", "bears = 0 * (1 + 0 * (",
+        "owes = if 1 < 2 then 3 else if 4 < 5 then"}) {
+      x = new GhostPike();
+      Texts.put(x, ahead);
+      t.due("read() of " + ahead, x.read() > 0, true);
+      Texts.put(x, PAIR + "road a b 1 gate;ghost g a b 0 9 1;owes = 7;bears = 3;");
+      t.due("read() behind " + ahead, x.read(), 0);
+      t.due("cost(0, 0) behind " + ahead, x.cost(0, 0), 8);
+      t.due("breaks(0) behind " + ahead, x.breaks(0), 3);
+    }
+    t.edge(4, "however many FAULTS within a LAW there were");
+    x = new GhostPike();
+    for (int i = 0; i < 5; i++) {
+      Texts.put(x, "owes = 1+2*(1+2*(1+2*(1+2*(1+2*(1+2*(1");
+      t.due("read() " + i, x.read(), 1);
+    }
+    Texts.put(x, PAIR + "road a b 1 gate;ghost g a b 0 9 1;owes = 1 + 2 * (9 - 2 * 3) - 1;");
+    t.due("read()", x.read(), 0);
+    t.due("cost(0, 0)", x.cost(0, 0), 7);
+    t.edge(4, "SEED 0 if not told: a SEED of a text ahead is not that of the next ones");
+    for (int i = 0; i < 3; i++) {
+      Texts.put(x, "seed 15;fog 1;");
+      x.read();
+      t.due("count(7) of SEED 15", x.count(7), 1);
+      for (int fog = 21; fog <= 22; fog++) {
+        Texts.put(x, "fog " + fog + ";");
+        x.read();
+        t.due("count(7) of SEED 0 by FOG " + fog, x.count(7), fog - 21);
+      }
+    }
+    t.edge(4, "FOG 0 if not told: no FOG in a night of LOT 0");
+    t.due("count(7)", t.good("seed 15;").count(7), 0);
+    t.edge(4, "other PLACES at the same prices: the WAY is another");
+    x = Texts.read("place a;place b;place c;road a b 1;road b c 1;road a c 1;ghost g a b 0 0 1;");
+    t.due("wayAt(0, 0)", x.wayAt(0, 0), 0);
+    Texts.put(x, "place a;place b;place c;road a b 1;road b c 1;road a c 1;ghost g b c 0 0 1;");
+    x.read();
+    t.due("wayAt(0, 0) of the next", x.wayAt(0, 0), 1);
+    Texts.put(x, "place a;place b;place c;road c b 1;road b a 1;road a c 1;ghost g b c 0 0 1;");
+    x.read();
+    t.due("wayAt(0, 0) of the one behind it", x.wayAt(0, 0), 0);
   }
 }
