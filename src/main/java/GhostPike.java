@@ -1011,7 +1011,8 @@ public final class GhostPike {
                         break;
                     case UNLESS_LESS:
                         top -= 2;
-                        if (stack[top + 1] >= stack[top + 2]) {
+                        // Forward alone, so that the row comes to its end.
+                        if (stack[top + 1] >= stack[top + 2] && number > at) {
                             at = number - 1;
                         }
                         break;
