@@ -789,7 +789,7 @@ public final class GhostPike {
             }
             for (int i = 0; i <= MAX_DEPTH && depth > 0 && kindHere() == ')'; i++) {
                 settle(law, 1);
-                waits--;
+                waits = Math.max(0, waits - 1);
                 depth--;
                 take();
             }
@@ -926,6 +926,8 @@ public final class GhostPike {
 
         /** Two values that wait at each of seven depths, the left side of an if, the last one; and some. */
         static final int STACK = 24;
+        /** The stack is empty here; the dearest work reaches two below. */
+        private static final int BOTTOM = 2;
 
         /** The part of a key that this LAW looks at. */
         long mask;
@@ -978,8 +980,13 @@ public final class GhostPike {
         int valueOf(int[] given, int[] stack) {
             int[] row = works;
             int end = length;
-            int top = 0;
+            int high = stack.length - 2;
+            int top = BOTTOM;
             for (int at = 0; at < end; at++) {
+                // What the reader lets through never gets here; it is seen here that no work leaves the stack.
+                if (top < BOTTOM || top > high) {
+                    return 0;
+                }
                 int number = row[at] >> WORK_BITS;
                 switch (row[at] & (1 << WORK_BITS) - 1) {
                     case PUSH:
@@ -988,7 +995,7 @@ public final class GhostPike {
                         break;
                     case LOAD:
                         top++;
-                        stack[top] = given[number];
+                        stack[top] = number >= 0 && number < given.length ? given[number] : 0;
                         break;
                     case ADD:
                         top--;
